@@ -612,30 +612,35 @@ public final class FortyHouses {
             return found;
         }
 
-        /** What a set has more than the other houses: the upper number, not in least terms. */
+        /*
+         * The gap is MORE of a set less MORE of the other houses. With e by p for the set and E by P
+         * for all, e by p less E - e by P - p is e P - E p by p (P - p); it is not in least terms.
+         */
+
         int gapUpper(int set) {
-            int rest = all() & ~set;
-            return excessOf(set) * peopleOf(rest) - excessOf(rest) * peopleOf(set);
+            return excessOf(set) * peopleOf(all()) - excessOf(all()) * peopleOf(set);
         }
 
         int gapLower(int set) {
-            return peopleOf(set) * peopleOf(all() & ~set);
-        }
-
-        boolean isGapAtLeast(int set, long upper, long lower) {
-            return gapUpper(set) * lower >= upper * gapLower(set);
+            return peopleOf(set) * (peopleOf(all()) - peopleOf(set));
         }
 
         /** How many sets of as many houses have a gap that is the told set's at least. */
         int setsWithGapOf(int told) {
             int among = Integer.bitCount(told);
-            int upper = gapUpper(told);
-            int lower = gapLower(told);
+            long upper = gapUpper(told);
+            long lower = gapLower(told);
             int every = all();
+            int allPeople = peopleOf(every);
+            int allExcess = excessOf(every);
             int found = 0;
             for (int set = 0; set <= every; set++) {
-                if (Integer.bitCount(set) == among && isGapAtLeast(set, upper, lower)) {
-                    found++;
+                if (Integer.bitCount(set) == among) {
+                    // The gap's two numbers, with the sums over all houses made but once.
+                    int setPeople = peopleOf(set);
+                    int setUpper = excessOf(set) * allPeople - allExcess * setPeople;
+                    int setLower = setPeople * (allPeople - setPeople);
+                    found += setUpper * lower >= upper * setLower ? 1 : 0;
                 }
             }
             return found;
@@ -643,11 +648,12 @@ public final class FortyHouses {
 
         /** How many conditions that part the houses have a gap that is the told set's at least. */
         int conditionsWithGapOf(int told) {
-            int upper = gapUpper(told);
-            int lower = gapLower(told);
+            long upper = gapUpper(told);
+            long lower = gapLower(told);
             int found = 0;
             for (int condition = 0; condition < CONDITION_COUNT; condition++) {
-                if (isParted(condition) && isGapAtLeast(having(condition), upper, lower)) {
+                int set = having(condition);
+                if (isParted(condition) && gapUpper(set) * lower >= upper * gapLower(set)) {
                     found++;
                 }
             }
