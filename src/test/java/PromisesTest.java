@@ -34,6 +34,7 @@ public final class PromisesTest {
         images();
         count();
         trace();
+        allFull();
         CHECK.end();
     }
 
@@ -370,6 +371,9 @@ public final class PromisesTest {
     private static void faults() {
         fault("l", 0);
         fault("lawz 1 1;", 0);
+        fault("xaw 1 1;", 0);
+        fault("if 1 1;", 0);
+        fault("law 1 1 law a else 1;", 8);
         fault("alaw 1 1;", 0);
         fault("law 1 1 if a else 9a;", 19);
         fault("la w 1 1;", 0);
@@ -773,5 +777,39 @@ public final class PromisesTest {
         x.weight(6, 0);
         x.back(0);
         due("30 not in an image", x.trace(), sum + 1000001);
+    }
+
+    /** Every call that goes over rows, where the rows have no free place left. */
+    private static void allFull() {
+        FortyHouses x = withFindings(16);
+        for (int i = 0; i < 12; i++) {
+            x.house(12, i, 0, i < 6 ? 1 : 0);
+        }
+        Check.type(x, "law 1 1;law 2 1;law 3 1;law 4 1;law 5 1;law 6 1;");
+        due("full laws", x.laws(), 6);
+        due("full more", x.more(-1, 0), 11);
+        due("full more", x.more(-1, 1), 24);
+        due("full same", x.same(), 0);
+        due("full without", x.without(), 0);
+        due("full between", x.between(0, 0), -1);
+        due("full between", x.between(0, 1), 2);
+        due("full priced", x.priced(0, 0), 924);
+        due("full priced", x.priced(0, 1), 924);
+        due("full priced", x.priced(0, 2), 1);
+        due("full weight", x.weight(6, 11), 12);
+        // How far 10 times 0 to 11 are from 60, and 0 from 12 in each house.
+        due("full misfit", x.misfit(4), 60 + 50 + 40 + 30 + 20 + 10 + 0 + 10 + 20 + 30 + 40 + 50 + 12 * 12);
+        due("full best", x.best(0), 4);
+        due("full next", x.best(2), 0);
+        due("full held", x.held(0, 0), 16 * 2500);
+        due("full held", x.held(1, 1), 0);
+        due("full held", x.held(0, 2), 0);
+        due("full held", x.held(0, 3), 16);
+        due("full falls", x.falls(-1, 0), 65535);
+        due("full bears", x.bears(), 0);
+        due("full people", x.count(1), 288);
+        due("full came", x.count(4), 16);
+        due("full keep", x.keep(0), 28);
+        due("full back", x.back(0), 28);
     }
 }
