@@ -32,15 +32,16 @@ public final class AgainstPlainTest {
 
     /** Calls whose arguments are few enough to go through all. */
     private static void allOfSomeCalls() {
-        FortyHouses got = new FortyHouses();
         Plain want = new Plain();
         for (int n = -1; n <= 100; n++) {
+            FortyHouses got = new FortyHouses();
             for (int hundredths = -1; hundredths <= 101; hundredths++) {
                 CHECK.due("can(" + hundredths + ", " + n + ")", got.can(hundredths, n), want.can(hundredths, n));
             }
         }
         for (int x = 0; x <= 10; x++) {
             for (int y = 0; y <= 10; y++) {
+                FortyHouses got = new FortyHouses();
                 for (int d = -9; d <= 9; d++) {
                     for (int n = 1; n <= 9; n++) {
                         CHECK.due("sure " + x + " " + y + " " + n + " " + d, got.sure(x, y, n, d), want.sure(x, y, n, d));
